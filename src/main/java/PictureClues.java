@@ -1156,6 +1156,51 @@ public final class PictureClues {
     }
 
     /**
+     * How many cells of each color the clues ask for. No line is wrong where rows and columns ask
+     * for different numbers, so that a search would go through very many pictures in vain.
+     */
+    private static final class Totals {
+        private final int[] ofRows = new int[SHADES];
+        private final int[] ofColumns = new int[SHADES];
+        /** The cells of the rows, and those of the columns, that have no clue. */
+        private long freeRows;
+        private long freeColumns;
+
+        void add(Grid grid, Clues clues) {
+            Arrays.fill(ofRows, 0);
+            Arrays.fill(ofColumns, 0);
+            freeRows = 0;
+            freeColumns = 0;
+            for (int line = 0; line < grid.lines(); line++) {
+                boolean isRow = line < grid.height;
+                long free = clues.has(line) ? 0 : grid.cellsAt((1 << grid.cellsOf(line)) - 1, line);
+                freeRows |= isRow ? free : 0;
+                freeColumns |= isRow ? 0 : free;
+                for (int block = 0; block < clues.sizes[line]; block++) {
+                    int[] sums = isRow ? ofRows : ofColumns;
+                    sums[clues.colorOf(line, block)] += clues.lengthOf(line, block);
+                }
+            }
+        }
+
+        /** Whether rows and columns could still come to the same totals. */
+        boolean canAgree(Layer marks) {
+            long doubtful = marks.doubtful();
+            for (int color = 1; color < SHADES; color++) {
+                long possible = marks.cells[color];
+                long sure = possible & ~doubtful;
+                int mostInRows = ofRows[color] + Long.bitCount(possible & freeRows);
+                int mostInColumns = ofColumns[color] + Long.bitCount(possible & freeColumns);
+                if (mostInRows < ofColumns[color] + Long.bitCount(sure & freeColumns)
+                        || mostInColumns < ofRows[color] + Long.bitCount(sure & freeRows)) {
+                    return false;
+                }
+            }
+            return true;
+        }
+    }
+
+    /**
      * Looks for solutions in the marks of the narrower: gives the first cell that is not known
      * each of its colors, narrows by fillings, and goes on so. This way the first solution that is
      * found is the one with the least sequence of colors.
@@ -1170,6 +1215,7 @@ public final class PictureClues {
         private final Clues clues;
         private final Fillings fillings;
         private final Narrower narrower;
+        private final Totals totals = new Totals();
         private final Layer first = new Layer();
         private final long[] marks = new long[MOST_CELLS * SHADES];
         private final int[] indexes = new int[MOST_CELLS];
@@ -1194,7 +1240,8 @@ public final class PictureClues {
             depth = 0;
             found = 0;
             Arrays.fill(deadRowSums, NONE);
-            boolean possible = narrower.settle(clues.clued, false);
+            totals.add(grid, clues);
+            boolean possible = narrower.settle(clues.clued, false) && totals.canAgree(narrower.marks);
             for (int tries = 0; tries < MANY_TRIES; tries++) {
                 long doubtful = narrower.marks.doubtful();
                 if (possible && doubtful != 0) {
@@ -1252,7 +1299,7 @@ public final class PictureClues {
             colorsLeft[top] &= colorsLeft[top] - 1;
             System.arraycopy(marks, top * SHADES, narrower.marks.cells, 0, SHADES);
             narrower.marks.put(1L << indexes[top], 1 << color);
-            return narrower.settle(grid.linesOf(indexes[top]), false);
+            return narrower.settle(grid.linesOf(indexes[top]), false) && totals.canAgree(narrower.marks);
         }
 
         /** Finds the sums of the columns, and of the row, before a cell. */
