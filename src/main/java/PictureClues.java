@@ -1210,6 +1210,9 @@ public final class PictureClues {
      */
     private static final class Search {
         private static final int REMEMBERED = 512;
+        /** After so many tries, trials are worth what they cost, but not deeper than this. */
+        private static final int EASY_TRIES = 256;
+        private static final int DEPTH_OF_TRIALS = 8;
 
         private final Grid grid;
         private final Clues clues;
@@ -1254,6 +1257,9 @@ public final class PictureClues {
                     break;
                 }
                 possible = takeNextColor();
+                if (possible && tries > EASY_TRIES && depth <= DEPTH_OF_TRIALS) {
+                    possible = narrower.settleByTrials() && totals.canAgree(narrower.marks);
+                }
             }
             return found;
         }
