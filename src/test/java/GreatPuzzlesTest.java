@@ -19,6 +19,9 @@ public final class GreatPuzzlesTest {
         "any;any;any;any;1;1 3;3 2;1 2 1;1 1;1 2;1 2;1 1;1 1 1;1 2;1 1;any/",
     };
 
+    /** Seeds of puzzles whose searches meet lines with as many blocks, but with other runs. */
+    private static final long[] SEEDS = {103565, 203657, 301190, 500145};
+
     private final PictureClues x = new PictureClues();
     private final Map<String, Integer> counts = new HashMap<>();
     private int[][][] clues;
@@ -32,9 +35,11 @@ public final class GreatPuzzlesTest {
             test.loadHard(hard);
             test.compare(hard);
         }
+        for (long seed : SEEDS) {
+            test.compareByChance(seed);
+        }
         for (long seed = from; seed < from + puzzles; seed++) {
-            test.makeByChance(new Random(seed));
-            test.compare("seed " + seed);
+            test.compareByChance(seed);
         }
         Due.end();
     }
@@ -49,6 +54,11 @@ public final class GreatPuzzlesTest {
             String[] numbers = mark.split(" ");
             x.setMark(Integer.parseInt(numbers[0]), Integer.parseInt(numbers[1]), Integer.parseInt(numbers[2]));
         }
+    }
+
+    private void compareByChance(long seed) {
+        makeByChance(new Random(seed));
+        compare("seed " + seed);
     }
 
     private void makeByChance(Random random) {
