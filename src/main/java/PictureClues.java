@@ -18,10 +18,11 @@ public final class PictureClues {
     private static final int MOST_STATES = 8;
     /** A fault p of a text is answered as FAULT - p. */
     private static final int FAULT = -2000;
-    /** Far above the steps of any narrowing, which ends by itself when no color is left to go. */
+    /**
+     * Far above the steps of any narrowing: each of its narrowings takes one of 256 colors of cells away
+     * for good, and between two of them lie 16 lines or 256 trials at most.
+     */
     private static final int MANY_STEPS = 1_000_000;
-    /** Far above the pictures that a search has to look at. */
-    private static final int MANY_TRIES = 1_000_000_000;
 
     private final Grid grid;
     private final Situation now;
@@ -41,7 +42,7 @@ public final class PictureClues {
         loaded = new Clues();
         fillings = new Fillings(grid, now.clues);
         narrower = new Narrower(grid, now.clues, fillings);
-        search = new Search(grid, now.clues, fillings, narrower);
+        search = new Search(grid, now.clues, narrower);
         advice = new Advice(grid, now.clues, fillings, narrower);
         begin(5, 5, 1);
     }
@@ -514,6 +515,19 @@ public final class PictureClues {
             return line < height ? cell(i, line) : cell(line - height, i);
         }
 
+        /** The next cell in row-major order. Behind the last cell it is one below the last row. */
+        int indexAfter(int index) {
+            return xOf(index) + 1 < width ? index + 1 : index(0, yOf(index) + 1);
+        }
+
+        /** The cell before one in row-major order. Before the first cell it is NONE. */
+        int indexBefore(int index) {
+            if (xOf(index) > 0) {
+                return index - 1;
+            }
+            return yOf(index) > 0 ? index(width - 1, yOf(index) - 1) : NONE;
+        }
+
         /** The row and the column of a cell, as a set of lines. */
         int linesOf(int index) {
             return 1 << yOf(index) | 1 << height + xOf(index);
@@ -948,27 +962,6 @@ public final class PictureClues {
             }
         }
 
-        /**
-         * Sums up the known cells of a line before a place: beginnings with the same sum can be
-         * continued in the same ways.
-         */
-        int sumBefore(int place, Layer marks, int which) {
-            int begun = 0;
-            int filled = 0;
-            for (int color = 1; color < SHADES; color++) {
-                int bits = grid.bitsOf(marks.cells[color], which) & (1 << place) - 1;
-                begun |= bits & ~(bits << 1);
-                filled |= bits;
-            }
-            int blocks = Integer.bitCount(begun);
-            if (blocks == 0 || blocks > clues.sizes[which] || (filled << 1 >>> place & 1) == 0) {
-                return SIDE * 2 * blocks;
-            }
-            int run = place - highestBit(begun);
-            boolean ended = run >= clues.lengthOf(which, blocks - 1) && clues.gapBefore(which, blocks) == 0;
-            return SIDE * 2 * blocks + (ended ? 0 : run);
-        }
-
         private void look(Layer marks, int which) {
             line = which;
             size = clues.sizes[which];
@@ -1156,177 +1149,288 @@ public final class PictureClues {
     }
 
     /**
-     * How many cells of each color the clues ask for. No line is wrong where rows and columns ask
-     * for different numbers, so that a search would go through very many pictures in vain.
+     * How far the cells of a line before some place have come in its clue. Written out, a clue has a sign for
+     * each cell of its room: the color that the cell must have, or 0 between blocks of the same color. The
+     * stage of a line is the number of the signs that are done with; the other cells before the place lie
+     * empty beyond the room. What can follow depends on nothing else that is before the place. A line
+     * without a clue stays at stage 0.
+     *
+     * Only stages of possible fillings count here. They are named by their ranks among those of the place.
+     * At place p of n, with the room r, there are at most 1 + min(p, n - p, r, n - r) of them.
      */
-    private static final class Totals {
-        private final int[] ofRows = new int[SHADES];
-        private final int[] ofColumns = new int[SHADES];
-        /** The cells of the rows, and those of the columns, that have no clue. */
-        private long freeRows;
-        private long freeColumns;
+    private static final class Stages {
+        private static final int PLACES = SIDE + 1;
+        private static final int MOST_RANKS = SIDE / 2 + 1;
 
-        void add(Grid grid, Clues clues) {
-            Arrays.fill(ofRows, 0);
-            Arrays.fill(ofColumns, 0);
-            freeRows = 0;
-            freeColumns = 0;
+        private final Grid grid;
+        private final Clues clues;
+        /** For each color the stages, as bits, from which a cell of it leads to the next stage. */
+        private final int[] onward = new int[SHADES];
+        /** For each color the stages at which a cell of it changes nothing. */
+        private final int[] staying = new int[SHADES];
+        /** For each color the cells of a line that can have it. */
+        private final int[] can = new int[SHADES];
+        /** For each place of a line the stages that it can have there. */
+        private final int[] possible = new int[PLACES];
+        private final int[] numbers = new int[MOST_LINES * PLACES];
+        private final int[] ranksAfter = new int[MOST_LINES * SIDE * MOST_RANKS * SHADES];
+
+        Stages(Grid grid, Clues clues) {
+            this.grid = grid;
+            this.clues = clues;
+        }
+
+        /** Finds the stages of all lines in the fillings that marks leave possible. */
+        void find(Layer marks) {
             for (int line = 0; line < grid.lines(); line++) {
-                boolean isRow = line < grid.height;
-                long free = clues.has(line) ? 0 : grid.cellsAt((1 << grid.cellsOf(line)) - 1, line);
-                freeRows |= isRow ? free : 0;
-                freeColumns |= isRow ? 0 : free;
-                for (int block = 0; block < clues.sizes[line]; block++) {
-                    int[] sums = isRow ? ofRows : ofColumns;
-                    sums[clues.colorOf(line, block)] += clues.lengthOf(line, block);
+                spell(line);
+                for (int color = 0; color < SHADES; color++) {
+                    can[color] = grid.bitsOf(marks.cells[color], line);
+                }
+                findPossible(line);
+                for (int place = 0; place < PLACES; place++) {
+                    numbers[PLACES * line + place] = Integer.bitCount(possible[place]);
+                }
+                for (int cell = 0; cell < grid.cellsOf(line); cell++) {
+                    rankAfter(line, cell);
                 }
             }
         }
 
-        /** Whether rows and columns could still come to the same totals. */
-        boolean canAgree(Layer marks) {
-            long doubtful = marks.doubtful();
-            for (int color = 1; color < SHADES; color++) {
-                long possible = marks.cells[color];
-                long sure = possible & ~doubtful;
-                int mostInRows = ofRows[color] + Long.bitCount(possible & freeRows);
-                int mostInColumns = ofColumns[color] + Long.bitCount(possible & freeColumns);
-                if (mostInRows < ofColumns[color] + Long.bitCount(sure & freeColumns)
-                        || mostInColumns < ofRows[color] + Long.bitCount(sure & freeRows)) {
-                    return false;
+        /** The number of stages that a line can have at a place. */
+        int number(int line, int place) {
+            return numbers[PLACES * line + place];
+        }
+
+        /** The stage of a line behind a cell with a color, when it had one before; NONE if there is none. */
+        int after(int line, int cell, int rank, int color) {
+            return ranksAfter[((SIDE * line + cell) * MOST_RANKS + rank) * SHADES + color];
+        }
+
+        /** Finds what each color means at each stage of a line. */
+        private void spell(int line) {
+            int stage = 0;
+            Arrays.fill(onward, 0);
+            Arrays.fill(staying, clues.has(line) ? 0 : 1);
+            staying[0] = (2 << clues.rooms[line]) - 1;
+            for (int block = 0; block < clues.sizes[line]; block++) {
+                if (clues.gapBefore(line, block) != 0) {
+                    onward[0] |= 1 << stage;
+                    staying[0] &= ~(1 << stage);
+                    stage++;
+                }
+                int length = clues.lengthOf(line, block);
+                onward[clues.colorOf(line, block)] |= (1 << length) - 1 << stage;
+                // An empty cell can lie before the block, but not within it.
+                staying[0] &= ~((1 << length) - 2 << stage);
+                stage += length;
+            }
+        }
+
+        private void findPossible(int line) {
+            int cells = grid.cellsOf(line);
+            Arrays.fill(possible, 0);
+            possible[0] = 1;
+            for (int cell = 0; cell < cells; cell++) {
+                possible[cell + 1] = behind(possible[cell], cell);
+            }
+            possible[cells] &= 1 << clues.rooms[line];
+            for (int cell = cells - 1; cell >= 0; cell--) {
+                possible[cell] &= ahead(possible[cell + 1], cell);
+            }
+        }
+
+        /** The stages behind a cell that follow one of some stages before it. */
+        private int behind(int stages, int cell) {
+            int behind = 0;
+            for (int color = 0; color < SHADES; color++) {
+                if ((can[color] >>> cell & 1) != 0) {
+                    behind |= following(stages, color);
                 }
             }
-            return true;
+            return behind;
+        }
+
+        private int following(int stages, int color) {
+            return (stages & onward[color]) << 1 | stages & staying[color];
+        }
+
+        /** The stages before a cell that one of some stages behind it follows. */
+        private int ahead(int stages, int cell) {
+            int ahead = 0;
+            for (int color = 0; color < SHADES; color++) {
+                if ((can[color] >>> cell & 1) != 0) {
+                    ahead |= stages >>> 1 & onward[color] | stages & staying[color];
+                }
+            }
+            return ahead;
+        }
+
+        private void rankAfter(int line, int cell) {
+            int left = possible[cell];
+            for (int rank = 0; rank < MOST_RANKS && left != 0; rank++) {
+                int stage = left & -left;
+                left ^= stage;
+                for (int color = 0; color < SHADES; color++) {
+                    boolean has = (can[color] >>> cell & 1) != 0;
+                    int next = has ? following(stage, color) & possible[cell + 1] : 0;
+                    ranksAfter[((SIDE * line + cell) * MOST_RANKS + rank) * SHADES + color]
+                            = next == 0 ? NONE : Integer.bitCount(possible[cell + 1] & next - 1);
+                }
+            }
         }
     }
 
     /**
-     * Looks for solutions in the marks of the narrower: gives the first cell that is not known
-     * each of its colors, narrows by fillings, and goes on so. This way the first solution that is
-     * found is the one with the least sequence of colors.
+     * Looks for solutions in the marks of the narrower: goes through the cells in row-major order, and gives
+     * each of them its colors in ascending order. This way the first solution that is found is the one
+     * with the least sequence of colors.
      *
-     * What the cells from one on can be depends only on the sums of the lines before it. Cells
-     * and sums from which no solution was found are remembered, lest they be searched again.
+     * What the cells from one on can be depends only on the stages of the columns and of the row before it.
+     * There is a bit for each cell with each such sum of stages, and it is set when no solution was found from
+     * there on. So none is gone through twice in vain, and the search ends by itself, whatever the
+     * clues and marks are.
      */
     private static final class Search {
-        private static final int REMEMBERED = 512;
-        /** After so many tries, trials are worth what they cost, but not deeper than this. */
-        private static final int EASY_TRIES = 256;
-        private static final int DEPTH_OF_TRIALS = 8;
+        private static final int FEW_WORDS = 256;
+        /**
+         * Far above the steps of any search. Eight lines of five stages at most each make fewer than 10
+         * million sums at all cells. One of them takes five steps, but is gone through again only if
+         * it is on the way to a solution; those are 64 for each of 99 solutions.
+         */
+        private static final int MANY_TRIES = 1_000_000_000;
 
         private final Grid grid;
         private final Clues clues;
-        private final Fillings fillings;
         private final Narrower narrower;
-        private final Totals totals = new Totals();
+        private final Stages stages;
         private final Layer first = new Layer();
-        private final long[] marks = new long[MOST_CELLS * SHADES];
-        private final int[] indexes = new int[MOST_CELLS];
-        private final int[] colorsLeft = new int[MOST_CELLS];
+        /** The bits of the sums that lead to no solution. It grows when a puzzle has more sums. */
+        private long[] dead = new long[FEW_WORDS];
+        /** For each cell the bit of its first sum. */
+        private final int[] offsets = new int[MOST_CELLS];
+        /** The stages of the columns, as ranks. */
+        private final int[] columns = new int[SIDE];
+        /** For each cell the stages of its row and column before it, and the bit of their sum. */
+        private final int[] rowsBefore = new int[MOST_CELLS];
+        private final int[] columnsBefore = new int[MOST_CELLS];
+        private final int[] sums = new int[MOST_CELLS];
+        /** For each cell the color that it gets next, and the solutions that were found before the first. */
+        private final int[] nextColors = new int[MOST_CELLS];
         private final int[] foundBefore = new int[MOST_CELLS];
-        private final long[] columnSums = new long[MOST_CELLS];
-        private final int[] rowSums = new int[MOST_CELLS];
-        private final long[] deadColumnSums = new long[REMEMBERED];
-        private final int[] deadRowSums = new int[REMEMBERED];
-        private int depth;
         private int found;
 
-        Search(Grid grid, Clues clues, Fillings fillings, Narrower narrower) {
+        Search(Grid grid, Clues clues, Narrower narrower) {
             this.grid = grid;
             this.clues = clues;
-            this.fillings = fillings;
             this.narrower = narrower;
+            stages = new Stages(grid, clues);
         }
 
         /** Returns the number of solutions, at most `most`; keeps the first one. */
         int run(int most) {
-            depth = 0;
             found = 0;
-            Arrays.fill(deadRowSums, NONE);
-            totals.add(grid, clues);
-            boolean possible = narrower.settle(clues.clued, false) && totals.canAgree(narrower.marks);
-            for (int tries = 0; tries < MANY_TRIES; tries++) {
-                long doubtful = narrower.marks.doubtful();
-                if (possible && doubtful != 0) {
-                    open(lowestBit(doubtful));
-                } else if (possible) {
-                    addSolution();
-                }
-                leaveFinished();
-                if (found >= most || depth == 0) {
-                    break;
-                }
-                possible = takeNextColor();
-                if (possible && tries > EASY_TRIES && depth <= DEPTH_OF_TRIALS) {
-                    possible = narrower.settleByTrials() && totals.canAgree(narrower.marks);
-                }
+            if (!narrower.settle(clues.clued, false)) {
+                return 0;
+            }
+            stages.find(narrower.marks);
+            forget(layOut());
+            Arrays.fill(columns, 0);
+            enter(0, 0);
+            int index = 0;
+            for (int tries = 0; index != NONE && found < most && tries < MANY_TRIES; tries++) {
+                index = tryNextColor(index);
             }
             return found;
         }
 
+        /** Gives each sum a bit. Returns the number of bits. */
+        private int layOut() {
+            int bits = 0;
+            for (int y = 0; y < grid.height; y++) {
+                for (int x = 0; x < grid.width; x++) {
+                    offsets[Grid.index(x, y)] = bits;
+                    int sumsHere = stages.number(y, x);
+                    for (int column = 0; column < grid.width; column++) {
+                        sumsHere *= numberOf(column, x, y);
+                    }
+                    bits += sumsHere;
+                }
+            }
+            return bits;
+        }
+
+        /** The number of stages of a column when the cells before (x, y) have colors. */
+        private int numberOf(int column, int x, int y) {
+            return stages.number(grid.height + column, column < x ? y + 1 : y);
+        }
+
+        private void forget(int bits) {
+            int words = (bits >>> 6) + 1;
+            if (words > dead.length) {
+                // At least doubled, so that all the tables of an object take little more than the greatest.
+                dead = new long[Math.max(words, 2 * dead.length)];
+            } else {
+                Arrays.fill(dead, 0, words, 0);
+            }
+        }
+
+        /** Gives a cell its next color. Returns the cell that gets a color then, or NONE. */
+        private int tryNextColor(int index) {
+            int x = Grid.xOf(index);
+            int y = Grid.yOf(index);
+            int color = nextColors[index];
+            columns[x] = columnsBefore[index];
+            if (color > grid.colors) {
+                if (foundBefore[index] == found) {
+                    dead[sums[index] >>> 6] |= 1L << sums[index];
+                }
+                return grid.indexBefore(index);
+            }
+            nextColors[index]++;
+            int column = stages.after(grid.height + x, y, columns[x], color);
+            int row = stages.after(y, x, rowsBefore[index], color);
+            if (column == NONE || row == NONE) {
+                return index;
+            }
+            columns[x] = column;
+            int next = grid.indexAfter(index);
+            if (Grid.yOf(next) >= grid.height) {
+                addSolution();
+                return index;
+            }
+            return enter(next, row) ? next : index;
+        }
+
+        /** Begins with the colors of a cell, unless it is known that they lead to no solution. */
+        private boolean enter(int index, int row) {
+            int x = Grid.xOf(index);
+            int y = Grid.yOf(index);
+            int sum = 0;
+            for (int column = 0; column < grid.width; column++) {
+                sum = sum * numberOf(column, x, y) + columns[column];
+            }
+            sum = offsets[index] + sum * stages.number(y, x) + row;
+            if ((dead[sum >>> 6] >>> sum & 1) != 0) {
+                return false;
+            }
+            rowsBefore[index] = row;
+            columnsBefore[index] = columns[x];
+            sums[index] = sum;
+            nextColors[index] = 0;
+            foundBefore[index] = found;
+            return true;
+        }
+
+        /** Counts the solution whose cells have the colors that they were given last. */
         private void addSolution() {
             if (found == 0) {
-                first.copyFrom(narrower.marks);
+                first.put(-1L, 0);
+                for (int index = 0; Grid.yOf(index) < grid.height; index = grid.indexAfter(index)) {
+                    first.put(1L << index, 1 << nextColors[index] - 1);
+                }
             }
             found++;
-        }
-
-        /** Opens the first cell that is not known, unless it is known to lead to no solution. */
-        private void open(int index) {
-            if (depth >= MOST_CELLS) {
-                return;
-            }
-            sumUp(index);
-            int slot = slotOf(depth);
-            if (deadColumnSums[slot] == columnSums[depth] && deadRowSums[slot] == rowSums[depth]) {
-                return;
-            }
-            System.arraycopy(narrower.marks.cells, 0, marks, depth * SHADES, SHADES);
-            indexes[depth] = index;
-            colorsLeft[depth] = narrower.marks.colorsAt(1L << index);
-            foundBefore[depth] = found;
-            depth++;
-        }
-
-        private void leaveFinished() {
-            while (depth > 0 && colorsLeft[depth - 1] == 0) {
-                depth--;
-                if (foundBefore[depth] == found) {
-                    int slot = slotOf(depth);
-                    deadColumnSums[slot] = columnSums[depth];
-                    deadRowSums[slot] = rowSums[depth];
-                }
-            }
-        }
-
-        private boolean takeNextColor() {
-            int top = depth - 1;
-            int color = lowestBit(colorsLeft[top]);
-            colorsLeft[top] &= colorsLeft[top] - 1;
-            System.arraycopy(marks, top * SHADES, narrower.marks.cells, 0, SHADES);
-            narrower.marks.put(1L << indexes[top], 1 << color);
-            return narrower.settle(grid.linesOf(indexes[top]), false) && totals.canAgree(narrower.marks);
-        }
-
-        /** Finds the sums of the columns, and of the row, before a cell. */
-        private void sumUp(int index) {
-            int y = Grid.yOf(index);
-            int x = Grid.xOf(index);
-            long columns = 0;
-            for (int column = 0; column < grid.width; column++) {
-                int line = grid.height + column;
-                if (clues.has(line)) {
-                    columns |= (long) fillings.sumBefore(column < x ? y + 1 : y, narrower.marks, line) << SIDE * column;
-                }
-            }
-            columnSums[depth] = columns;
-            int row = clues.has(y) ? fillings.sumBefore(x, narrower.marks, y) : 0;
-            rowSums[depth] = row << SIDE | index;
-        }
-
-        private int slotOf(int level) {
-            long mixed = (columnSums[level] + rowSums[level] * 0x9E3779B97F4A7C15L) * 0xBF58476D1CE4E5B9L;
-            return (int) (mixed >>> 32) & REMEMBERED - 1;
         }
     }
 
