@@ -1173,6 +1173,8 @@ public final class PictureClues {
         /** For each place of a line the stages that it can have there. */
         private final int[] possible = new int[PLACES];
         private final int[] numbers = new int[MOST_LINES * PLACES];
+        /** For each cell of a line and each stage before it the colors that it can have, as bits. */
+        private final int[] colorsAt = new int[MOST_LINES * SIDE * MOST_RANKS];
         private final int[] ranksAfter = new int[MOST_LINES * SIDE * MOST_RANKS * SHADES];
 
         Stages(Grid grid, Clues clues) {
@@ -1192,7 +1194,7 @@ public final class PictureClues {
                     numbers[PLACES * line + place] = Integer.bitCount(possible[place]);
                 }
                 for (int cell = 0; cell < grid.cellsOf(line); cell++) {
-                    rankAfter(line, cell);
+                    tabulate(line, cell);
                 }
             }
         }
@@ -1202,8 +1204,13 @@ public final class PictureClues {
             return numbers[PLACES * line + place];
         }
 
-        /** The stage of a line behind a cell with a color, when it had one before; NONE if there is none. */
-        int after(int line, int cell, int rank, int color) {
+        /** The colors that a cell of a line can have behind a stage. */
+        int colorsAfter(int line, int cell, int rank) {
+            return colorsAt[(SIDE * line + cell) * MOST_RANKS + rank];
+        }
+
+        /** The stage of a line behind a cell with a color that it can have behind a stage. */
+        int rankAfter(int line, int cell, int rank, int color) {
             return ranksAfter[((SIDE * line + cell) * MOST_RANKS + rank) * SHADES + color];
         }
 
@@ -1266,16 +1273,19 @@ public final class PictureClues {
             return ahead;
         }
 
-        private void rankAfter(int line, int cell) {
+        private void tabulate(int line, int cell) {
             int left = possible[cell];
             for (int rank = 0; rank < MOST_RANKS && left != 0; rank++) {
+                int at = (SIDE * line + cell) * MOST_RANKS + rank;
                 int stage = left & -left;
                 left ^= stage;
+                colorsAt[at] = 0;
                 for (int color = 0; color < SHADES; color++) {
-                    boolean has = (can[color] >>> cell & 1) != 0;
-                    int next = has ? following(stage, color) & possible[cell + 1] : 0;
-                    ranksAfter[((SIDE * line + cell) * MOST_RANKS + rank) * SHADES + color]
-                            = next == 0 ? NONE : Integer.bitCount(possible[cell + 1] & next - 1);
+                    int next = following(stage, color) & possible[cell + 1];
+                    if (next != 0 && (can[color] >>> cell & 1) != 0) {
+                        colorsAt[at] |= 1 << color;
+                        ranksAfter[at * SHADES + color] = Integer.bitCount(possible[cell + 1] & next - 1);
+                    }
                 }
             }
         }
@@ -1307,16 +1317,18 @@ public final class PictureClues {
         private final Layer first = new Layer();
         /** The bits of the sums that lead to no solution. It grows when a puzzle has more sums. */
         private long[] dead = new long[FEW_WORDS];
-        /** For each cell the bit of its first sum. */
+        /** For each cell the bit of its first sum, and how many sums the columns but its own have. */
         private final int[] offsets = new int[MOST_CELLS];
+        private final int[] weights = new int[MOST_CELLS];
         /** The stages of the columns, as ranks. */
         private final int[] columns = new int[SIDE];
-        /** For each cell the stages of its row and column before it, and the bit of their sum. */
+        /** For each cell the stages of its row, of its column and of all columns before it. */
         private final int[] rowsBefore = new int[MOST_CELLS];
         private final int[] columnsBefore = new int[MOST_CELLS];
-        private final int[] sums = new int[MOST_CELLS];
-        /** For each cell the color that it gets next, and the solutions that were found before the first. */
-        private final int[] nextColors = new int[MOST_CELLS];
+        private final int[] columnSums = new int[MOST_CELLS];
+        /** For each cell the colors that are still to be tried, and the one that it has. */
+        private final int[] colorsLeft = new int[MOST_CELLS];
+        private final int[] colors = new int[MOST_CELLS];
         private final int[] foundBefore = new int[MOST_CELLS];
         private int found;
 
@@ -1336,10 +1348,10 @@ public final class PictureClues {
             stages.find(narrower.marks);
             forget(layOut());
             Arrays.fill(columns, 0);
-            enter(0, 0);
+            enter(0, 0, 0);
             int index = 0;
             for (int tries = 0; index != NONE && found < most && tries < MANY_TRIES; tries++) {
-                index = tryNextColor(index);
+                index = colorsLeft[index] != 0 ? tryNextColor(index) : leave(index);
             }
             return found;
         }
@@ -1349,20 +1361,16 @@ public final class PictureClues {
             int bits = 0;
             for (int y = 0; y < grid.height; y++) {
                 for (int x = 0; x < grid.width; x++) {
-                    offsets[Grid.index(x, y)] = bits;
-                    int sumsHere = stages.number(y, x);
+                    int weight = 1;
                     for (int column = 0; column < grid.width; column++) {
-                        sumsHere *= numberOf(column, x, y);
+                        weight *= column == x ? 1 : stages.number(grid.height + column, column < x ? y + 1 : y);
                     }
-                    bits += sumsHere;
+                    offsets[Grid.index(x, y)] = bits;
+                    weights[Grid.index(x, y)] = weight;
+                    bits += weight * stages.number(grid.height + x, y) * stages.number(y, x);
                 }
             }
             return bits;
-        }
-
-        /** The number of stages of a column when the cells before (x, y) have colors. */
-        private int numberOf(int column, int x, int y) {
-            return stages.number(grid.height + column, column < x ? y + 1 : y);
         }
 
         private void forget(int bits) {
@@ -1375,51 +1383,59 @@ public final class PictureClues {
             }
         }
 
-        /** Gives a cell its next color. Returns the cell that gets a color then, or NONE. */
+        /** The bit of the stages before a cell. */
+        private int bitOf(int index, int columnSum, int row) {
+            return offsets[index] + columnSum * stages.number(Grid.yOf(index), Grid.xOf(index)) + row;
+        }
+
+        /** Gives a cell its next color. Returns the cell that is the next to get one. */
         private int tryNextColor(int index) {
             int x = Grid.xOf(index);
             int y = Grid.yOf(index);
-            int color = nextColors[index];
-            columns[x] = columnsBefore[index];
-            if (color > grid.colors) {
-                if (foundBefore[index] == found) {
-                    dead[sums[index] >>> 6] |= 1L << sums[index];
-                }
-                return grid.indexBefore(index);
-            }
-            nextColors[index]++;
-            int column = stages.after(grid.height + x, y, columns[x], color);
-            int row = stages.after(y, x, rowsBefore[index], color);
-            if (column == NONE || row == NONE) {
-                return index;
-            }
-            columns[x] = column;
+            int line = grid.height + x;
+            int color = lowestBit(colorsLeft[index]);
+            colorsLeft[index] &= colorsLeft[index] - 1;
+            colors[index] = color;
             int next = grid.indexAfter(index);
             if (Grid.yOf(next) >= grid.height) {
                 addSolution();
                 return index;
             }
-            return enter(next, row) ? next : index;
+            columns[x] = stages.rankAfter(line, y, columnsBefore[index], color);
+            // The columns are summed up from the one of the cell on, which goes behind all others now.
+            int others = columnSums[index] - columnsBefore[index] * weights[index];
+            int columnSum = others * stages.number(line, y + 1) + columns[x];
+            return enter(next, columnSum, stages.rankAfter(y, x, rowsBefore[index], color)) ? next : index;
         }
 
         /** Begins with the colors of a cell, unless it is known that they lead to no solution. */
-        private boolean enter(int index, int row) {
-            int x = Grid.xOf(index);
-            int y = Grid.yOf(index);
-            int sum = 0;
-            for (int column = 0; column < grid.width; column++) {
-                sum = sum * numberOf(column, x, y) + columns[column];
-            }
-            sum = offsets[index] + sum * stages.number(y, x) + row;
-            if ((dead[sum >>> 6] >>> sum & 1) != 0) {
+        private boolean enter(int index, int columnSum, int row) {
+            int bit = bitOf(index, columnSum, row);
+            int word = bit >>> 6;
+            if (word < dead.length && (dead[word] >>> bit & 1) != 0) {
                 return false;
             }
+            int x = Grid.xOf(index);
+            int y = Grid.yOf(index);
             rowsBefore[index] = row;
             columnsBefore[index] = columns[x];
-            sums[index] = sum;
-            nextColors[index] = 0;
+            columnSums[index] = columnSum;
+            colorsLeft[index] = stages.colorsAfter(grid.height + x, y, columns[x]) & stages.colorsAfter(y, x, row);
             foundBefore[index] = found;
             return true;
+        }
+
+        /** Ends with the colors of a cell. Returns the cell before it, or NONE. */
+        private int leave(int index) {
+            if (foundBefore[index] == found) {
+                int bit = bitOf(index, columnSums[index], rowsBefore[index]);
+                int word = bit >>> 6;
+                if (word < dead.length) {
+                    dead[word] |= 1L << bit;
+                }
+            }
+            columns[Grid.xOf(index)] = columnsBefore[index];
+            return grid.indexBefore(index);
         }
 
         /** Counts the solution whose cells have the colors that they were given last. */
@@ -1427,7 +1443,7 @@ public final class PictureClues {
             if (found == 0) {
                 first.put(-1L, 0);
                 for (int index = 0; Grid.yOf(index) < grid.height; index = grid.indexAfter(index)) {
-                    first.put(1L << index, 1 << nextColors[index] - 1);
+                    first.put(1L << index, 1 << colors[index]);
                 }
             }
             found++;

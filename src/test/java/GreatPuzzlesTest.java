@@ -10,30 +10,38 @@ import java.util.Random;
 public final class GreatPuzzlesTest {
     private static final int MOST = 99;
 
-    /** Puzzles that are hard to search: the clues, and marks as x, y and the set. */
+    /** Puzzles that are hard to search: the colors, the clues, and marks as x, y and the set. */
     private static final String[] HARD = {
-        "1;any;any;1 1;1;1 1 1 1;2 1 1;1 1;1 1;any;1 1;1 1;1 1;1 2;1 1;2 1/7 2 2,4 6 1",
-        "1 1 1;any;1 1;any;1 1;1 1 1;3 1;1 2;1 1;1 1;1 1 1;any;2 1 1;2;1 1 1;2 1/2 2 1,7 2 2,3 3 1",
-        "any;any;1 1;1 1;1 1 1 1;1 2 1;2 1 1;1;any;1 2;1 1;1 1;1 1 1;1 1;1 1 1;1 2/7 7 1",
-        "any;any;any;any;1;1 2;1 1;1 1 1;1 1;1;2;2 1;1 2;1 2;1 2;2 1/0 6 2",
-        "any;any;any;any;1;1 3;3 2;1 2 1;1 1;1 2;1 2;1 1;1 1 1;1 2;1 1;any/",
+        "1/1;any;any;1 1;1;1 1 1 1;2 1 1;1 1;1 1;any;1 1;1 1;1 1;1 2;1 1;2 1/7 2 2,4 6 1",
+        "1/1 1 1;any;1 1;any;1 1;1 1 1;3 1;1 2;1 1;1 1;1 1 1;any;2 1 1;2;1 1 1;2 1/2 2 1,7 2 2,3 3 1",
+        "1/any;any;1 1;1 1;1 1 1 1;1 2 1;2 1 1;1;any;1 2;1 1;1 1;1 1 1;1 1;1 1 1;1 2/7 7 1",
+        "1/any;any;any;any;1;1 2;1 1;1 1 1;1 1;1;2;2 1;1 2;1 2;1 2;2 1/0 6 2",
+        "1/any;any;any;any;1;1 3;3 2;1 2 1;1 1;1 2;1 2;1 1;1 1 1;1 2;1 1;any/",
     };
 
     /** Seeds of puzzles whose searches meet lines with as many blocks, but with other runs. */
     private static final long[] SEEDS = {103565, 203657, 301190, 500145};
 
+    /** How far all lines have come before a cell. */
+    private record State(int cell, long columns, int row) {
+    }
+
     private final PictureClues x = new PictureClues();
-    private final Map<String, Integer> counts = new HashMap<>();
+    private final Map<State, Integer> counts = new HashMap<>();
     private int[][][] clues;
     private int w, h, colors;
 
     public static void main(String[] args) {
+        GreatPuzzlesTest test = new GreatPuzzlesTest();
+        if (args.length > 0 && args[0].contains("/")) {
+            test.compareHard(args[0]);
+            Due.end();
+            return;
+        }
         int puzzles = args.length > 0 ? Integer.parseInt(args[0]) : 400;
         long from = args.length > 1 ? Long.parseLong(args[1]) : 0;
-        GreatPuzzlesTest test = new GreatPuzzlesTest();
         for (String hard : HARD) {
-            test.loadHard(hard);
-            test.compare(hard);
+            test.compareHard(hard);
         }
         for (long seed : SEEDS) {
             test.compareByChance(seed);
@@ -44,16 +52,9 @@ public final class GreatPuzzlesTest {
         Due.end();
     }
 
-    private void loadHard(String hard) {
-        String[] parts = hard.split("/");
-        x.start(8, 8, 1);
-        // All of the clues are in the text's limit only if they are typed without blanks.
-        Puzzles.type(x, parts[0].replace(" ", ""));
-        Due.is("load() of " + hard, x.load() > 0 ? 1 : 0, 1);
-        for (String mark : parts.length > 1 ? parts[1].split(",") : new String[0]) {
-            String[] numbers = mark.split(" ");
-            x.setMark(Integer.parseInt(numbers[0]), Integer.parseInt(numbers[1]), Integer.parseInt(numbers[2]));
-        }
+    private void compareHard(String hard) {
+        Puzzles.start(x, hard);
+        compare(hard);
     }
 
     private void compareByChance(long seed) {
@@ -127,11 +128,11 @@ public final class GreatPuzzlesTest {
         if (cell == w * h) {
             return 1;
         }
-        StringBuilder text = new StringBuilder().append(cell).append(' ').append(row);
+        long packed = 0;
         for (int state : columns) {
-            text.append(' ').append(state);
+            packed = packed << 8 | state;
         }
-        String key = text.toString();
+        State key = new State(cell, packed, row);
         Integer known = counts.get(key);
         if (known != null) {
             return known;
@@ -159,8 +160,8 @@ public final class GreatPuzzlesTest {
             return null;
         }
         int[] next = Arrays.copyOf(columns, w + 1);
-        next[column] = behind(clues[h + column], columns[column], color, y == h - 1);
-        next[w] = behind(clues[y], row, color, column == w - 1);
+        next[column] = behind(clues[h + column], columns[column], color, h - 1 - y);
+        next[w] = behind(clues[y], row, color, w - 1 - column);
         boolean possible = next[column] >= 0 && next[w] >= 0;
         next[w] = column == w - 1 ? 0 : next[w];
         return possible ? next : null;
@@ -168,9 +169,10 @@ public final class GreatPuzzlesTest {
 
     /**
      * A state is 16 times the number of blocks that have begun, plus the cells of the last one if
-     * it reaches up to here. Returns the state behind one cell more, or -1 if there is none.
+     * it reaches up to here. Returns the state behind one cell more, or -1 if there is none, or if
+     * the cells that are left then are too few.
      */
-    private static int behind(int[][] clue, int state, int color, boolean last) {
+    private static int behind(int[][] clue, int state, int color, int left) {
         if (clue == null) {
             return 0;
         }
@@ -187,11 +189,19 @@ public final class GreatPuzzlesTest {
         } else {
             next = begun < clue.length && clue[begun][1] == color ? (begun + 1) * 16 + 1 : -1;
         }
-        if (last && next >= 0) {
-            boolean whole = next / 16 == clue.length && (next % 16 == 0 || next % 16 == clue[clue.length - 1][0]);
-            next = whole ? next : -1;
+        return next >= 0 && roomBehind(clue, next) <= left ? next : -1;
+    }
+
+    /** The cells that the rest of a clue needs behind a state. */
+    private static int roomBehind(int[][] clue, int state) {
+        int begun = state / 16;
+        int run = state % 16;
+        int room = run > 0 ? clue[begun - 1][0] - run : 0;
+        for (int block = begun; block < clue.length; block++) {
+            boolean near = block > begun || run > 0;
+            room += clue[block][0] + (near && clue[block - 1][1] == clue[block][1] ? 1 : 0);
         }
-        return next;
+        return room;
     }
 
     private long[] first() {

@@ -22,6 +22,20 @@ final class Puzzles {
         return x;
     }
 
+    /** Starts a puzzle of 8 by 8 cells: its colors, its clues and, behind slashes, marks as x, y and the set. */
+    static void start(PictureClues x, String puzzle) {
+        String[] parts = puzzle.split("/");
+        x.start(8, 8, Integer.parseInt(parts[0]));
+        x.clear();
+        // All of the clues are in the text's limit only if they are typed without blanks.
+        type(x, parts[1].replace(" ", ""));
+        Due.is("load() of " + puzzle, x.load() > 0 ? 1 : 0, 1);
+        for (String mark : parts.length > 2 ? parts[2].split(",") : new String[0]) {
+            String[] numbers = mark.split(" ");
+            x.setMark(Integer.parseInt(numbers[0]), Integer.parseInt(numbers[1]), Integer.parseInt(numbers[2]));
+        }
+    }
+
     /** A clue behind the other, as a text would have it, with a letter for each color. */
     static String clues(PictureClues x) {
         StringBuilder text = new StringBuilder();

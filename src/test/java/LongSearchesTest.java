@@ -1,0 +1,82 @@
+/**
+ * Promises 18 to 20 for puzzles whose searches are among the longest: no answer may be cut off. The answers
+ * that are due were counted by GreatPuzzlesTest, which takes minutes for each of these puzzles.
+ */
+public final class LongSearchesTest {
+    private static final int NONE = PictureClues.NONE;
+    private static final int MOST_MILLISECONDS = 60_000;
+
+    /** Without a solution, which is seen only behind very many beginnings of pictures. */
+    private static final String[] VAIN = {
+        "1/any;1;any;any;any;any;2;2 2;1 2;1 2;1 2;1 2;1 2;1 2;2 1;1 2/0 0 3,0 1 1,3 1 1,4 1 1",
+        "2/any;any;any;any;11b;11b;2b1b;11b;21;21b1;1b11b1;1b1b;11b1;2b11b1;1b1b1;1b2b/7 0 5,1 1 7,2 5 7,3 7 5",
+        "2/any;any;any;any;any;1b2b;1b21b;11b1;1b1b1;1b2b1;1b11b2;2b1b;1b1b;1b1b1;111b;12b1/"
+                + "0 1 7,2 1 3,5 1 5,6 1 5,0 2 5,5 2 5,4 3 7,0 4 7,6 4 7,7 4 7",
+    };
+
+    /** As ../shared/tests/LateSolutionTest.java has it, but for the mark of cell (0, 0), which comes between. */
+    private static final String LATE = "3/any;any;any;any;any;any;11;11;1;1b1c1b1;11b1;1b1c1b1;11b1;1b1c1b1;11b1;1b1c1b1/0 0 ";
+    private static final String LATE_MARKS = ",1 0 13,3 0 13,5 0 13,7 0 13,"
+            + "0 1 1,1 1 13,3 1 13,5 1 13,7 1 13,0 2 1,1 2 13,3 2 13,5 2 13,7 2 13,"
+            + "0 3 1,1 3 13,3 3 13,5 3 13,7 3 13,0 4 1,1 4 13,3 4 13,5 4 13,7 4 13,"
+            + "0 5 1,1 5 13,3 5 13,5 5 13,7 5 13,0 6 3,1 6 3,2 6 1,3 6 3,4 6 1,5 6 3,6 6 1,7 6 3,"
+            + "0 7 3,1 7 3,2 7 1,3 7 3,4 7 1,5 7 3,6 7 1,7 7 3";
+
+    private static final long[] LATE_PICTURE = {
+        1, 0, 0, 0, 0, 0, 0, 0,
+        0, 0, 0, 0, 0, 0, 0, 0,
+        0, 0, 0, 0, 0, 0, 0, 0,
+        0, 2, 1, 2, 1, 2, 1, 2,
+        0, 3, 2, 3, 2, 3, 2, 3,
+        0, 2, 1, 2, 1, 2, 1, 2,
+        0, 0, 0, 0, 0, 1, 0, 1,
+        0, 1, 0, 1, 0, 0, 0, 0,
+    };
+
+    private static final PictureClues x = new PictureClues();
+    private static boolean ended = false;
+
+    public static void main(String[] args) throws InterruptedException {
+        Thread thread = new Thread(LongSearchesTest::searches);
+        thread.setDaemon(true);
+        thread.start();
+        thread.join(MOST_MILLISECONDS);
+        if (!ended) {
+            System.out.println("the searches did not end within " + MOST_MILLISECONDS + " milliseconds, or failed");
+            System.exit(1);
+        }
+        Due.end();
+    }
+
+    private static void searches() {
+        // The second time meets what the searches before have left behind in the object.
+        for (int time = 0; time < 2; time++) {
+            for (String puzzle : VAIN) {
+                none(puzzle);
+                x.clearMarks();
+                Due.is("solutions(1) with full marks of " + puzzle, x.solutions(1), x.difficulty() == 0 ? 0 : 1);
+            }
+            none(LATE + 1 + LATE_MARKS);
+            late(LATE + 3 + LATE_MARKS);
+            late(LATE + 2 + LATE_MARKS);
+        }
+        ended = true;
+    }
+
+    private static void none(String puzzle) {
+        Puzzles.start(x, puzzle);
+        long before = x.digest();
+        Due.is("solutions(99) of " + puzzle, x.solutions(99), 0);
+        Due.is("solve() of " + puzzle, x.solve(), NONE);
+        Due.is("digest() after NONE of " + puzzle, x.digest(), before);
+    }
+
+    private static void late(String puzzle) {
+        Puzzles.start(x, puzzle);
+        Due.is("solutions(99) of " + puzzle, x.solutions(99), 99);
+        Due.is("solve() of " + puzzle, x.solve(), 26);
+        Due.is("mistakes() of " + puzzle, x.mistakes(), 0);
+        Due.is("lines that fit in " + puzzle, x.count(10), x.count(3));
+        Due.are("the picture of " + puzzle, Puzzles.picture(x), LATE_PICTURE);
+    }
+}
