@@ -22,16 +22,16 @@ public final class LongSearchesTest {
             + "0 5 1,1 5 13,3 5 13,5 5 13,7 5 13,0 6 3,1 6 3,2 6 1,3 6 3,4 6 1,5 6 3,6 6 1,7 6 3,"
             + "0 7 3,1 7 3,2 7 1,3 7 3,4 7 1,5 7 3,6 7 1,7 7 3";
 
-    private static final long[] LATE_PICTURE = {
-        1, 0, 0, 0, 0, 0, 0, 0,
-        0, 0, 0, 0, 0, 0, 0, 0,
-        0, 0, 0, 0, 0, 0, 0, 0,
-        0, 2, 1, 2, 1, 2, 1, 2,
-        0, 3, 2, 3, 2, 3, 2, 3,
-        0, 2, 1, 2, 1, 2, 1, 2,
-        0, 0, 0, 0, 0, 1, 0, 1,
-        0, 1, 0, 1, 0, 0, 0, 0,
+    private static final String[] LATE_PICTURE = {
+        "10000000", "00000000", "00000000", "02121212", "03232323", "02121212", "00000101", "01010000",
     };
+
+    /** Their first solutions come later still, behind some six million cells that were given colors in vain. */
+    private static final String LATER_OF_TWO_COLORS
+            = "2/any;any;any;any;any;11b;111b1;11b;11;11b11b;11b2;1b1b1b;11b11b;11b11b;11b11b;2b11b/"
+            + "7 0 5,0 1 3,1 2 3,0 3 3,6 6 3,0 7 3,1 7 5,3 7 5,4 7 5";
+    private static final String LATER_OF_ONE_COLOR
+            = "1/any;any;any;any;any;1;2;1 1 2;1 2;1 2;2 1;2 2;2 1;1 2;1 2;2 1/0 1 1";
 
     private static final PictureClues x = new PictureClues();
     private static boolean ended = false;
@@ -57,8 +57,12 @@ public final class LongSearchesTest {
                 Due.is("solutions(1) with full marks of " + puzzle, x.solutions(1), x.difficulty() == 0 ? 0 : 1);
             }
             none(LATE + 1 + LATE_MARKS);
-            late(LATE + 3 + LATE_MARKS);
-            late(LATE + 2 + LATE_MARKS);
+            late(LATE + 3 + LATE_MARKS, 26, LATE_PICTURE);
+            late(LATE + 2 + LATE_MARKS, 26, LATE_PICTURE);
+            late(LATER_OF_TWO_COLORS, 29,
+                    "01020000", "02000002", "00020012", "01101121", "12222212", "00001020", "10102100", "00100200");
+            late(LATER_OF_ONE_COLOR, 25,
+                    "10010000", "01010000", "00000000", "11111101", "11111011", "00000100", "00000110", "00101011");
         }
         ended = true;
     }
@@ -71,12 +75,16 @@ public final class LongSearchesTest {
         Due.is("digest() after NONE of " + puzzle, x.digest(), before);
     }
 
-    private static void late(String puzzle) {
+    private static void late(String puzzle, int filled, String... rows) {
         Puzzles.start(x, puzzle);
         Due.is("solutions(99) of " + puzzle, x.solutions(99), 99);
-        Due.is("solve() of " + puzzle, x.solve(), 26);
+        Due.is("solve() of " + puzzle, x.solve(), filled);
         Due.is("mistakes() of " + puzzle, x.mistakes(), 0);
         Due.is("lines that fit in " + puzzle, x.count(10), x.count(3));
-        Due.are("the picture of " + puzzle, Puzzles.picture(x), LATE_PICTURE);
+        StringBuilder picture = new StringBuilder();
+        for (long color : Puzzles.picture(x)) {
+            picture.append(color);
+        }
+        Puzzles.same("the picture of " + puzzle, picture.toString(), String.join("", rows));
     }
 }
