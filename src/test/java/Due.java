@@ -1,14 +1,19 @@
 /** Compares answers with those that are due, tells the others, and ends a test. */
 final class Due {
     private static int wrong = 0;
+    /** What is tested at present, told before each wrong answer. */
+    private static String at = "";
 
     private Due() {
     }
 
+    static void at(String what) {
+        at = what.isEmpty() ? "" : what + ": ";
+    }
+
     static void is(String call, long got, long want) {
         if (got != want) {
-            wrong++;
-            System.out.println(call + " answered " + got + ", due is " + want);
+            fail(call + " answered " + got + ", due is " + want);
         }
     }
 
@@ -18,6 +23,11 @@ final class Due {
         for (int i = 0; i < got.length && i < want.length; i++) {
             is(calls + ", number " + i + ",", got[i], want[i]);
         }
+    }
+
+    static void fail(String what) {
+        wrong++;
+        System.out.println(at + what);
     }
 
     static void end() {

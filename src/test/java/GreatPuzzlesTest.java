@@ -26,7 +26,7 @@ public final class GreatPuzzlesTest {
     private record State(int cell, long columns, int row) {
     }
 
-    private final PictureClues x = new PictureClues();
+    private PictureClues x;
     private final Map<State, Integer> counts = new HashMap<>();
     private int[][][] clues;
     private int w, h, colors;
@@ -53,6 +53,7 @@ public final class GreatPuzzlesTest {
     }
 
     private void compareHard(String hard) {
+        x = new PictureClues();
         Puzzles.start(x, hard);
         compare(hard);
     }
@@ -63,6 +64,7 @@ public final class GreatPuzzlesTest {
     }
 
     private void makeByChance(Random random) {
+        x = new PictureClues();
         x.start(5 + random.nextInt(4), 5 + random.nextInt(4), 1 + random.nextInt(3));
         int width = x.count(0);
         int height = x.count(1);

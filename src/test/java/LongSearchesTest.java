@@ -33,7 +33,9 @@ public final class LongSearchesTest {
     private static final String LATER_OF_ONE_COLOR
             = "1/any;any;any;any;any;1;2;1 1 2;1 2;1 2;2 1;2 2;2 1;1 2;1 2;2 1/0 1 1";
 
-    private static final PictureClues x = new PictureClues();
+    /** How many searches there are. */
+    private static final int SEARCHES = 8;
+    private static PictureClues x;
     private static boolean ended = false;
 
     public static void main(String[] args) throws InterruptedException {
@@ -49,22 +51,36 @@ public final class LongSearchesTest {
     }
 
     private static void searches() {
-        // The second time meets what the searches before have left behind in the object.
-        for (int time = 0; time < 2; time++) {
-            for (String puzzle : VAIN) {
-                none(puzzle);
-                x.clearMarks();
-                Due.is("solutions(1) with full marks of " + puzzle, x.solutions(1), x.difficulty() == 0 ? 0 : 1);
-            }
-            none(LATE + 1 + LATE_MARKS);
-            late(LATE + 3 + LATE_MARKS, 26, LATE_PICTURE);
-            late(LATE + 2 + LATE_MARKS, 26, LATE_PICTURE);
-            late(LATER_OF_TWO_COLORS, 29,
-                    "01020000", "02000002", "00020012", "01101121", "12222212", "00001020", "10102100", "00100200");
-            late(LATER_OF_ONE_COLOR, 25,
-                    "10010000", "01010000", "00000000", "11111101", "11111011", "00000100", "00000110", "00101011");
+        // Each second search meets what another one has left behind in the object, which answers 512 calls.
+        for (int which = 0; which < SEARCHES; which++) {
+            x = new PictureClues();
+            search(which);
+            search((which + 1) % SEARCHES);
         }
         ended = true;
+    }
+
+    private static void search(int which) {
+        switch (which) {
+            case 0: case 1: case 2:
+                none(VAIN[which]);
+                x.clearMarks();
+                Due.is("solutions(1) with full marks of " + VAIN[which], x.solutions(1), x.difficulty() == 0 ? 0 : 1);
+                break;
+            case 3:
+                none(LATE + 1 + LATE_MARKS);
+                break;
+            case 4: case 5:
+                late(LATE + (which - 2) + LATE_MARKS, 26, LATE_PICTURE);
+                break;
+            case 6:
+                late(LATER_OF_TWO_COLORS, 29,
+                        "01020000", "02000002", "00020012", "01101121", "12222212", "00001020", "10102100", "00100200");
+                break;
+            default:
+                late(LATER_OF_ONE_COLOR, 25,
+                        "10010000", "01010000", "00000000", "11111101", "11111011", "00000100", "00000110", "00101011");
+        }
     }
 
     private static void none(String puzzle) {

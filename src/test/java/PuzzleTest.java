@@ -49,6 +49,7 @@ public final class PuzzleTest {
     private static void start() {
         PictureClues x = new PictureClues();
         for (int width = 1; width <= 8; width++) {
+            x = new PictureClues();
             for (int height = 1; height <= 8; height++) {
                 for (int colors = 1; colors <= 3; colors++) {
                     Due.is("start", x.start(width, height, colors), width + height);

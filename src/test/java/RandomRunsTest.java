@@ -9,6 +9,7 @@ public final class RandomRunsTest {
     private final PictureClues fast = new PictureClues();
     private final SlowClues slow = new SlowClues();
     private final int most;
+    private int calls = 0;
     private int w = 5, h = 5, colors = 1;
 
     private RandomRunsTest(long seed, int most) {
@@ -32,7 +33,8 @@ public final class RandomRunsTest {
 
     private void run(long seed) {
         begin();
-        for (int i = 0; i < 60 && wrong == 0; i++) {
+        // A step makes some hundred calls at most, and an object answers 512.
+        for (int i = 0; i < 60 && wrong == 0 && calls < 360; i++) {
             step(random.nextInt(100));
             if (i % 4 == 0) {
                 due("digest()", fast.digest(), slow.digest());
@@ -44,6 +46,7 @@ public final class RandomRunsTest {
     }
 
     private void due(String call, long got, long want) {
+        calls++;
         told.append(call).append(" -> ").append(got).append('\n');
         if (got != want) {
             wrong++;
