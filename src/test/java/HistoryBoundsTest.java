@@ -375,7 +375,7 @@ public final class HistoryBoundsTest {
         Due.is("the digest as call 512", y.digest(), new PictureClues().digest());
     }
 
-    /** Promise 27, the constants: the errors and NONE have the document's values. */
+    /** Promises 1 to 27, the constants: the errors and NONE have the document's values. */
     static void constants() {
         Due.is("NONE", NONE, -1);
         Due.is("BAD", BAD, -2);
