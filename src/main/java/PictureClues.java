@@ -1442,8 +1442,10 @@ public final class PictureClues {
         private void addSolution() {
             if (found == 0) {
                 first.put(-1L, 0);
-                for (int index = 0; Grid.yOf(index) < grid.height; index = grid.indexAfter(index)) {
-                    first.put(1L << index, 1 << colors[index]);
+                for (int y = 0; y < grid.height; y++) {
+                    for (int x = 0; x < grid.width; x++) {
+                        first.put(Grid.cell(x, y), 1 << colors[Grid.index(x, y)]);
+                    }
                 }
             }
             found++;
